@@ -1,0 +1,126 @@
+import java.util.NoSuchElementException;
+
+/** What the tests share: texts put on the tape, and answers held against those that are due. */
+final class Bench {
+    interface Call {
+        void make();
+    }
+
+    private static int asked;
+    private static int wrong;
+
+    final PrunedParses parses = new PrunedParses();
+
+    static void due(String what, long got, long want) {
+        asked++;
+        if (got == want) return;
+        wrong++;
+        System.out.println(what + " answered " + got + ", due is " + want);
+    }
+
+    static void due(String what, boolean got, boolean want) {
+        due(what, got ? 1 : 0, want ? 1 : 0);
+    }
+
+    /** Tells how it went, and ends with 1 if an answer was wrong. */
+    static void close(String name) {
+        System.out.println(name + ": " + asked + " answers, " + wrong + " wrong");
+        if (wrong != 0) System.exit(1);
+    }
+
+    /** A bench with a grammar that must be without a fault. */
+    static Bench with(String grammar) {
+        Bench bench = new Bench();
+        bench.grammar(grammar);
+        due("fault() of " + grammar, bench.parses.fault(), -1);
+        return bench;
+    }
+
+    void feed(String text) {
+        for (int from = 0; from < text.length(); from += 20) {
+            int[] numbers = new int[5];
+            for (int k = 0; k < 20; k++) {
+                int sign = from + k < text.length() ? text.charAt(from + k) : 0;
+                numbers[k / 4] = numbers[k / 4] << 8 | sign;
+            }
+            parses.feed(numbers[0], numbers[1], numbers[2], numbers[3], numbers[4]);
+        }
+    }
+
+    int grammar(String text) {
+        feed(text);
+        return parses.grammar(text.length());
+    }
+
+    int law(String text) {
+        feed(text);
+        return parses.law(text.length());
+    }
+
+    int work(String text) {
+        feed(text);
+        return parses.work(text.length());
+    }
+
+    /** Makes the TEXT by one WORK. */
+    Bench type(String text) {
+        StringBuilder steps = new StringBuilder();
+        if (parses.told(8) > 0) steps.append("cut 0 ").append(parses.told(8)).append(';');
+        for (int from = 0; from < text.length(); from += 8) {
+            steps.append("type ").append(from).append(" '");
+            for (int k = from; k < Math.min(text.length(), from + 8); k++) {
+                char sign = text.charAt(k);
+                if (sign == '\'' || sign == '\\') steps.append('\\');
+                steps.append(sign);
+            }
+            steps.append("';");
+        }
+        work(steps.toString());
+        due("told(8) behind typing " + text, parses.told(8), text.length());
+        return this;
+    }
+
+    void grammarFault(String text, int kind, int place, int clause) {
+        fault("grammar " + text, grammar(text), kind, place, clause);
+    }
+
+    void lawFault(String text, int kind, int place) {
+        fault("law " + text, law(text), kind, place, -1);
+    }
+
+    void workFault(String text, int kind, int place, int step) {
+        fault("work " + text, work(text), kind, place, step);
+    }
+
+    private void fault(String what, int answer, int kind, int place, int faulted) {
+        due(what, answer, kind - 10);
+        due("fault() of " + what, parses.fault(), place);
+        due("faulted() of " + what, parses.faulted(), faulted);
+        due("count(1) behind " + what, parses.count(1), 0);
+    }
+
+    /** The call must be refused as one with a wrong argument, and be counted so. */
+    void refuses(String what, Call call) {
+        refused(what, call, false);
+    }
+
+    /** The call must be refused as one that asks for what there is not, and be counted so. */
+    void misses(String what, Call call) {
+        refused(what, call, true);
+    }
+
+    private void refused(String what, Call call, boolean missing) {
+        int before = parses.status(0);
+        int argumentsBefore = parses.status(1);
+        String thrown = "nothing";
+        try {
+            call.make();
+        } catch (NoSuchElementException | IllegalArgumentException e) {
+            thrown = e.getClass().getSimpleName();
+        }
+        String want = missing ? "NoSuchElementException" : "IllegalArgumentException";
+        due(what + " throws " + want + " (it threw " + thrown + ")", thrown.equals(want), true);
+        due("status(0) behind " + what, parses.status(0), missing ? before + 1 : before);
+        due("status(1) behind " + what, parses.status(1), missing ? argumentsBefore : argumentsBefore + 1);
+    }
+}
