@@ -515,7 +515,6 @@ public final class PrunedParses {
         }
 
         private int takeNumber(int most) {
-            numberFrom = at;
             if (!isDigit(hereBehindBlanks())) {
                 fail(1, at);
                 return NONE;
@@ -1114,9 +1113,7 @@ public final class PrunedParses {
         private Reader reader;
 
         private Law() {
-            kinds[0] = NUMBER;
-            values[0] = 1;
-            count = 1;
+            clear();
         }
 
         private void clear() {
@@ -1741,7 +1738,7 @@ public final class PrunedParses {
         private final Finder finder;
         private final Table text;
         private boolean measured;
-        /** Of SORT s from i to j, at (s * PLACES + i) * PLACES + j; 0 if the PIECE is not OF it. */
+        /** Of SORT s from i to j, at (s * PLACES + i) * PLACES + j; anything if the PIECE is not OF it. */
         private final int[] heights = new int[SORTS * PLACES * PLACES];
         /** Like found of a Table, of the PIECES whose HEIGHT is known by now. */
         private final int[] known = new int[SORTS * PLACES];
@@ -1815,7 +1812,6 @@ public final class PrunedParses {
         private void measure() {
             if (measured) return;
             measured = true;
-            Arrays.fill(heights, 0);
             Arrays.fill(known, 0);
             boolean more = true;
             for (int height = 1; height <= heights.length && more; height++) {

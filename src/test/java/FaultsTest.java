@@ -47,6 +47,9 @@ public final class FaultsTest {
         bad("rule 0;x", 1, 7, 1);
         bad("rule 0;rules 0;", 1, 7, 1);
         bad("Rule 0;", 1, 0, 0);
+        bad("rulez 0;", 1, 0, 0);
+        bad("tule 0;", 1, 0, 0);
+        bad("rul 0;", 1, 0, 0);
         bad("rule 0 ;\t", 1, 8, 1);
         bad("rule 0 \n;", 1, 7, 0);
         bad("class [a] class [b];", 1, 10, 0);
@@ -211,8 +214,10 @@ public final class FaultsTest {
         Bench.due("faulted() behind a good one", bench.parses.faulted(), -1);
         bench.workFault("cut 0 1;cut", 1, 11, 1);
         bench.lawFault("1+", 1, 2);
+        bench.workFault("cut 0 1;cut", 1, 11, 1);
         bench.law("1");
         Bench.due("fault() behind a good law", bench.parses.fault(), -1);
+        Bench.due("faulted() behind a good law", bench.parses.faulted(), -1);
         bench.lawFault("", 1, 0);
         bench.work("");
         Bench.due("fault() behind a good work", bench.parses.fault(), -1);
@@ -242,7 +247,7 @@ public final class FaultsTest {
         goodLaw("least[1,most [ 2 , 3 ] ]");
         goodLaw("((((((1))))))");
         goodLaw("(1)+(1)+(1)+(1)+(1)+(1)+(1)");
-        goodLaw("least[1,1]+least[1,1]+most[1,1]+(1)+least[1,1]+most[1,1]+least[1,1]");
+        goodLaw("least[1,1]+least[1,1]+most[1,1]+(1)+least[1,1]+most[1,1]+least[1,1]+most[1,1]");
         badLaw("", 1, 0);
         badLaw("  ", 1, 2);
         badLaw("1000", 2, 0);

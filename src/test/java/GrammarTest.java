@@ -2,6 +2,7 @@
 public final class GrammarTest {
     public static void main(String[] args) {
         tellings();
+        nothingStaysOfOthers();
         groups();
         algebra();
         neighbours();
@@ -33,6 +34,37 @@ public final class GrammarTest {
         bench.grammarFault("rule 0 'a'", 1, 10, 0);
         Bench.due("told(1) behind a fault", parses.told(1), 2);
         Bench.due("told(8) behind a fault", parses.told(8), 4);
+    }
+
+    /** Grammars one behind the other: each is told as if it were the first one. */
+    private static void nothingStaysOfOthers() {
+        String[] grammars = {"class [x];rule 0 'a' @1 #0;rule 1;rule 1 'b' @2;quote 2 1 '<>!';not 1 #0;drop 3 0;drop 0 4;lay #0;token 3 @0;",
+            "class [y];rule 1 #0;", "rule 4 @5 'c';rule 5;drop 4 2;", "", "class [a-z];token 0 #0;quote 1 0 '()!';"};
+        Bench bench = new Bench();
+        for (int round = 0; round < 15; round++) {
+            String grammar = grammars[round * 2 % 5];
+            bench.grammar(grammar);
+            Bench fresh = Bench.with(grammar);
+            bench.type("(x)");
+            fresh.type("(x)");
+            for (int what = 0; what < 10; what++) {
+                Bench.due("told(" + what + ") of " + grammar, bench.parses.told(what), fresh.parses.told(what));
+            }
+            for (int sort = 0; sort < 8; sort++) {
+                for (int what = 0; what < 6; what++) {
+                    Bench.due("sort(" + sort + ", " + what + ") of " + grammar, bench.parses.sort(sort, what), fresh.parses.sort(sort, what));
+                }
+                Bench.due("pieces(" + sort + ") of " + grammar, bench.parses.pieces(sort), fresh.parses.pieces(sort));
+                Bench.due("fits(" + sort + ", 1, 0) of " + grammar, bench.parses.fits(sort, 1, 0), fresh.parses.fits(sort, 1, 0));
+            }
+        }
+        // A body is of another sort by another grammar.
+        bench.grammar("token 0 'x';quote 1 0 '()!';");
+        bench.type("(x)");
+        Bench.due("is(1, 0, 3)", bench.parses.is(1, 0, 3), true);
+        bench.grammar("token 0 'y';quote 1 0 '()!';");
+        bench.type("(x)");
+        Bench.due("is(1, 0, 3) by another grammar", bench.parses.is(1, 0, 3), false);
     }
 
     private static void group(Bench bench, int k, int many, int least, int greatest, int stretches) {
@@ -69,7 +101,7 @@ public final class GrammarTest {
 
     private static void algebra() {
         Bench bench = Bench.with("class [a-e]-[b]|[b]&[b-z];class [a-e]-([b]|[b]&[b-z]);class ~[\\ -~]|[x];"
-            + "class ~[a]&[a-c];class ~([a]&[a-c])&[a-c];class [']|[\\]]|[[];class [a-c]-~[b];");
+            + "class ~[a]&[a-c];class ~([a]&[a-c])&[a-c];class [']|[\\]]|[[];class [a-c]-~[b];class [0-9]-[5];");
         group(bench, 0, 4, 'b', 'e', 1);
         group(bench, 1, 4, 'a', 'e', 2);
         group(bench, 2, 1, 'x', 'x', 1);
@@ -77,6 +109,7 @@ public final class GrammarTest {
         group(bench, 4, 2, 'b', 'c', 1);
         group(bench, 5, 3, '\'', ']', 3);
         group(bench, 6, 1, 'b', 'b', 1);
+        group(bench, 7, 9, '0', '9', 2);
     }
 
     private static void neighbours() {

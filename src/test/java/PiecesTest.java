@@ -125,6 +125,13 @@ public final class PiecesTest {
         ends(bench, 2, 1, 2);
         ends(bench, 3, 0, 1);
         ends(bench, 3, 1);
+        // A SIGN at place 0 may not follow what is empty ahead of it; SORT 0 can be dropped.
+        bench = Bench.with("class [x];token 1;not 1 #0;token 0;token 0 'a';drop 2 0;token 2;token 2 'a';token 2 'ax';").type("xaxx");
+        ends(bench, 1, 0);
+        ends(bench, 1, 1, 1);
+        ends(bench, 1, 4, 4);
+        ends(bench, 2, 1, 3);
+        ends(bench, 2, 0);
         // What bars a PIECE bars the QUOTES of its SORT, too; and each not of it counts.
         bench = Bench.with("class [x];class [y];quote 0 1 '()!';token 1;token 1 #0;not 0 #0;not 0 #1;quote 2 1 '()!';drop 2 3;token 3 '(x)';");
         bench.type("()x()y()()");
@@ -164,6 +171,13 @@ public final class PiecesTest {
         ends(bench, 2, 4);
         bench.type("<A>");
         ends(bench, 1, 0);
+        // A CLOSE that is gone does not end it; an ESCAPE may be the last of 24.
+        bench.type("<a>");
+        bench.work("cut 2 1;");
+        ends(bench, 1, 0);
+        bench.type("aaaaaaaaaaaaaaaaaaaa<aa!");
+        ends(bench, 1, 20);
+        Bench.due("body(0, 20)", bench.parses.body(0, 20), -1);
     }
 
     /** Four kinds of brackets, so that a text within texts needs no escapes. */
@@ -196,6 +210,12 @@ public final class PiecesTest {
         Bench.due("ways(1, 2, 2)", parses.ways(1, 2, 2), 2);
         bench.type("()");
         Bench.due("ways(2, 0, 2)", parses.ways(2, 0, 2), 4);
+        bench.type("a()()");
+        Bench.due("ways(2, 3, 5)", parses.ways(2, 3, 5), 4);
+        Bench.due("ways(2, 1, 3)", parses.ways(2, 1, 3), 4);
+        Bench.due("ways(1, 1, 1)", parses.ways(1, 1, 1), 2);
+        Bench other = Bench.with("quote 0 1 '()!';quote 1 1 '()!';token 1;token 0 '()';").type("()");
+        Bench.due("ways(0, 0, 2) by one of two QUOTES", other.parses.ways(0, 0, 2), 2);
         // 4 from 0 ends at 0, 1, 2, and layout takes the next one to 2: three rows; from there it is empty.
         bench.type("  b");
         Bench.due("ways(3, 0, 3)", parses.ways(3, 0, 3), 3);
@@ -253,6 +273,11 @@ public final class PiecesTest {
         node(bench, 0, 0);
         Bench.due("nodes(0, 0, 7)", bench.parses.nodes(0, 0, 7), 0);
         Bench.due("nodes(4, 3, 5)", bench.parses.nodes(4, 3, 5), 2);
+        Bench.due("nodes(4, 4, 5)", bench.parses.nodes(4, 4, 5), 1);
+        Bench.due("nodes(0, 3, 5)", bench.parses.nodes(0, 3, 5), 3);
+        Bench.due("nodes(2, 3, 5)", bench.parses.nodes(2, 3, 5), 4);
+        Bench.due("nodes(2, 3, 7)", bench.parses.nodes(2, 3, 7), 8);
+        Bench.due("nodes(2, 6, 7)", bench.parses.nodes(2, 6, 7), 3);
         node(bench, 2, 0, 2, 0, 7, 5, 1, 0);
         // The first production by which it has its HEIGHT, not the first one; each part ends as early as can be.
         bench = Bench.with("token 0 @1;token 1 @2;token 2 @3;token 3;token 0 @4 @4 @4;token 4;token 4 'a';token 4 'aa';token 0 'b' @3 'b';");
@@ -441,6 +466,8 @@ public final class PiecesTest {
             + "quote 2 0 '<>!';token 3 'no';not 4 #1;token 4 #2;token 5 @4 #2;").type("a.b");
         fit(bench, 0, 1, 1, ',', -1);
         fit(bench, 0, 0, 0, -1, -1);
+        Bench first = Bench.with("class [p-r];class [p-r];token 0 #1;").type("x");
+        fit(first, 0, 0, 3, 'p', 0);
         bench.type("a,b");
         fit(bench, 0, 0, 3, 'a', 2);
         fit(bench, 0, 1, 1, ',', -1);

@@ -14,6 +14,7 @@ public final class StateTest {
         years();
         spans();
         askingChangesNothing();
+        manyBodies();
         statusAndCount();
         Bench.close("StateTest");
     }
@@ -118,6 +119,11 @@ public final class StateTest {
         step(bench, "type 0 'a';type 24 'b';cut 24 1;cut 23 2;cut 23 1;type 23 'cd';type 23 'c';", 2, 5, "12345678123456781234567c");
         step(bench, "cut 0 24;again 3[type 0 'a';again 2[type 0 'b';];];", 10, 0, "bbabbabba");
         step(bench, "again 0[cut 0 1;];again 5[];cut 0 9;again 2[cut 0 1;];", 1, 2, "");
+        // Where there is no SIGN any more there is none to change places with.
+        bench = new Bench();
+        step(bench, "type 0 'abc';cut 2 1;swap 2 0;swap 0 2;swap 3 0;", 2, 3, "ab");
+        bench = new Bench();
+        step(bench, "again 3[type 0 'abcdefgh';];swap 24 0;swap 0 24;swap 23 0;", 4, 2, "hbcdefghabcdefghabcdefga");
         bench = new Bench();
         step(bench, "type 0 'abcd';again 3[swap 0 1;swap 1 2;];", 7, 0, "abcd");
         step(bench, "again 2[again 3[swap 0 1;];again 0[swap 0 3;];swap 2 3;];", 8, 0, "abcd");
@@ -365,6 +371,22 @@ public final class StateTest {
             bench.parses.body(1, 3);
             bench.parses.inside(0, 0, 0);
             Bench.due("all behind wrong and body", asked(bench), before);
+        }
+    }
+
+    /** An object that has seen very many bodies answers as one that has seen none. */
+    private static void manyBodies() {
+        String grammar = "class ~[];token 0;token 0 @0 #0 #0;token 0 @1 @2;quote 1 0 'ab!';quote 1 2 'ac!';quote 2 0 'db!';quote 2 1 'ed!';drop 3 0;token 3 @1;";
+        String text = "aaedadaaeadeaddaa!bdccbb";
+        Bench bench = Bench.with(grammar).type(text);
+        for (int seed = 0; seed < 40; seed++) {
+            Bench fresh = Bench.with(grammar).type(text);
+            for (int what = 1; what < 4; what += 2) {
+                Bench.due("year(" + seed + ", 24, " + what + ")", bench.parses.year(seed, 24, what), fresh.parses.year(seed, 24, what));
+            }
+            int place = seed % 24;
+            Bench.due("fits(3, " + place + ", 0)", bench.parses.fits(3, place, 0), fresh.parses.fits(3, place, 0));
+            Bench.due("wrong(3, 1, 2)", bench.parses.wrong(3, 1, 2), fresh.parses.wrong(3, 1, 2));
         }
     }
 
