@@ -48,6 +48,11 @@ public final class PiecesTest {
         bench.misses("sign(-1)", () -> parses.sign(-1));
         bench.misses("run(7)", () -> parses.run(7));
         bench.misses("run(-1)", () -> parses.run(-1));
+        bench.type("                        ");
+        Bench.due("run(0) of 24", parses.run(0), 24);
+        Bench.due("run(24) of 24", parses.run(24), 24);
+        bench.work("cut 1 23;");
+        Bench.due("run(0) of 1", parses.run(0), 1);
         Bench without = Bench.with("class [\\ ];").type("   ");
         for (int place = 0; place <= 3; place++) Bench.due("run without lay", without.parses.run(place), place);
     }
@@ -468,6 +473,14 @@ public final class PiecesTest {
         fit(bench, 0, 0, 0, -1, -1);
         Bench first = Bench.with("class [p-r];class [p-r];token 0 #1;").type("x");
         fit(first, 0, 0, 3, 'p', 0);
+        Bench named = Bench.with("token 0 'a' ',';class [xy];token 1 #0;token 1 'q' @1 'z';").type("a;");
+        fit(named, 0, 1, 1, ',', -1);
+        fit(named, 0, 0, 0, -1, -1);
+        named.type("qaz");
+        fit(named, 1, 1, 2, 'x', 0);
+        fit(named, 1, 2, 0, -1, -1);
+        named.type("qxx");
+        fit(named, 1, 2, 1, 'z', -1);
         bench.type("a,b");
         fit(bench, 0, 0, 3, 'a', 2);
         fit(bench, 0, 1, 1, ',', -1);
