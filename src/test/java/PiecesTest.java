@@ -304,6 +304,10 @@ public final class PiecesTest {
         node(bench, 0, 0, 0, 0, 4, 3, 3, 0);
         node(bench, 0, 1, 0, 0, 2, 2, 1, 1);
         node(bench, 0, 4, 0, 2, 4, 2, 1, 1);
+        bench = Bench.with("token 0;token 0 @0 'a';").type("a");
+        Bench.due("nodes(0, 0, 1)", bench.parses.nodes(0, 0, 1), 2);
+        Bench.due("nodes(0, 0, 0)", bench.parses.nodes(0, 0, 0), 1);
+        Bench.due("nodes(0, 1, 1)", bench.parses.nodes(0, 1, 1), 1);
         // QUOTES come behind PRODUCTIONS of the same HEIGHT, and have no parts.
         bench = Bench.with("quote 0 1 '()!';token 1 'a';token 0 '(' @1 ')';").type("(a)");
         Bench.due("nodes by a QUOTE", bench.parses.nodes(0, 0, 3), 1);
