@@ -6,8 +6,13 @@ final class Bench {
         void make();
     }
 
+    private static final int PROMISES = 36;
+
     private static int asked;
     private static int wrong;
+    /** The boundary case that is being tested, and how many there were of each promise. */
+    private static String edge = "";
+    private static final int[] edges = new int[PROMISES + 1];
 
     final PrunedParses parses = new PrunedParses();
 
@@ -15,7 +20,25 @@ final class Bench {
         asked++;
         if (got == want) return;
         wrong++;
-        System.out.println(what + " answered " + got + ", due is " + want);
+        System.out.println(edge + what + " answered " + got + ", due is " + want);
+    }
+
+    /** Begins a test of a boundary case that a sentence names; what is wrong from here on is told with it. */
+    static void edge(int promise, String sentence) {
+        edges[promise]++;
+        edge = "promise " + promise + ", " + sentence + ": ";
+    }
+
+    /** Like close, but each of these promises must have had a boundary case. */
+    static void closeEdges(String name, int first, int last) {
+        edge = "";
+        StringBuilder counted = new StringBuilder(name + ": boundary cases of promise");
+        for (int promise = first; promise <= last; promise++) {
+            due("boundary cases of promise " + promise + " are tested", edges[promise] > 0, true);
+            counted.append(' ').append(promise).append(" (").append(edges[promise]).append(')');
+        }
+        System.out.println(counted);
+        close(name);
     }
 
     static void due(String what, boolean got, boolean want) {
@@ -64,6 +87,8 @@ final class Bench {
 
     /** Makes the TEXT by one WORK. */
     Bench type(String text) {
+        // There may be 16 WORKS: this leaves room for some behind it.
+        while (parses.count(2) > 11) parses.undo();
         StringBuilder steps = new StringBuilder();
         if (parses.told(8) > 0) steps.append("cut 0 ").append(parses.told(8)).append(';');
         for (int from = 0; from < text.length(); from += 8) {
@@ -78,6 +103,30 @@ final class Bench {
         work(steps.toString());
         due("told(8) behind typing " + text, parses.told(8), text.length());
         return this;
+    }
+
+    String text() {
+        StringBuilder text = new StringBuilder();
+        for (int place = 0; place < parses.told(8); place++) text.append((char) parses.sign(place));
+        return text.toString();
+    }
+
+    void textIs(String due) {
+        String text = text();
+        due("the TEXT " + text + " is " + due, text.equals(due), true);
+    }
+
+    /** One WORK: how many STEPS it does, how many are refused, and the TEXT behind it. */
+    void step(String steps, int done, int refused, String due) {
+        due("work " + steps, work(steps), done);
+        due("told(9) behind " + steps, parses.told(9), refused);
+        textIs(due);
+    }
+
+    static String times(String text, int many) {
+        StringBuilder all = new StringBuilder();
+        for (int k = 0; k < many; k++) all.append(text);
+        return all.toString();
     }
 
     void grammarFault(String text, int kind, int place, int clause) {

@@ -15,12 +15,6 @@ public final class FaultsTest {
         Bench.close("FaultsTest");
     }
 
-    private static String times(String text, int many) {
-        StringBuilder all = new StringBuilder();
-        for (int k = 0; k < many; k++) all.append(text);
-        return all.toString();
-    }
-
     private static void good(String text, int productions) {
         Bench bench = new Bench();
         Bench.due("grammar " + text, bench.grammar(text), productions);
@@ -157,19 +151,19 @@ public final class FaultsTest {
     }
 
     private static void counts() {
-        good(times("rule 0;", 20), 20);
-        bad(times("rule 0;", 20) + "token 0;", 3, 140, 20);
-        bad(times("token 0;", 20) + "rule 0;", 3, 160, 20);
-        bad(times("rule 0;", 20) + "tokens 0;", 1, 140, 20);
-        bad(times("class [];", 8) + "  class ?", 3, 74, 8);
-        bad(times("quote 0 0 'abc';", 4) + "quote 0 0 'abc';", 3, 64, 4);
-        bad("class [];" + times("not 0#0;", 9), 3, 73, 9);
-        bad(times("drop 0 1;", 9), 3, 72, 8);
-        good("class [];" + times("lay#0;", 59), 0);
-        bad("class [];" + times("lay#0;", 60), 3, 363, 60);
-        bad("class [];" + times("lay#0;", 59) + "lays", 1, 363, 60);
-        bad("class [];" + times("lay#0;", 59) + "?", 1, 363, 60);
-        good("class [];" + times("lay#0;", 59) + "  ", 0);
+        good(Bench.times("rule 0;", 20), 20);
+        bad(Bench.times("rule 0;", 20) + "token 0;", 3, 140, 20);
+        bad(Bench.times("token 0;", 20) + "rule 0;", 3, 160, 20);
+        bad(Bench.times("rule 0;", 20) + "tokens 0;", 1, 140, 20);
+        bad(Bench.times("class [];", 8) + "  class ?", 3, 74, 8);
+        bad(Bench.times("quote 0 0 'abc';", 4) + "quote 0 0 'abc';", 3, 64, 4);
+        bad("class [];" + Bench.times("not 0#0;", 9), 3, 73, 9);
+        bad(Bench.times("drop 0 1;", 9), 3, 72, 8);
+        good("class [];" + Bench.times("lay#0;", 59), 0);
+        bad("class [];" + Bench.times("lay#0;", 60), 3, 363, 60);
+        bad("class [];" + Bench.times("lay#0;", 59) + "lays", 1, 363, 60);
+        bad("class [];" + Bench.times("lay#0;", 59) + "?", 1, 363, 60);
+        good("class [];" + Bench.times("lay#0;", 59) + "  ", 0);
         good("rule 0 @1 'a' @1 'b';", 1);
         bad("rule 0 @1 @1 @1 @1 @1;", 3, 19, 0);
         bad("rule 0 @1 @1 @1 @1 @9;", 3, 19, 0);
@@ -272,7 +266,7 @@ public final class FaultsTest {
         badLaw("least[(most[(least[(most", 3, 20);
         badLaw("least[(most[(least[(1000", 2, 20);
         Bench bench = new Bench();
-        bench.feed(times("1", 160));
+        bench.feed(Bench.times("1", 160));
         bench.refuses("law(151)", () -> bench.parses.law(151));
         Bench.due("count(1) behind law(151)", bench.parses.count(1), 160);
         bench.refuses("law(-1)", () -> bench.parses.law(-1));
@@ -314,12 +308,12 @@ public final class FaultsTest {
         badWork("again 1[cut 0 1;]", 1, 17, 0);
         badWork("cut 0 1;again 1[cut 0 1;cut 0 99;];", 2, 30, 1);
         badWork("again 1[cut 0 1;];x", 1, 18, 1);
-        badWork(times("again 1[", 7), 3, 48, 0);
-        badWork(times("again 1[", 6) + "agains", 1, 48, 0);
-        Bench.due("six agains", new Bench().work(times("again 1[", 6) + "type 0 'a';" + times("];", 6)), 1);
-        Bench.due("seven agains, one by one", new Bench().work(times("again 1[];", 7)), 0);
+        badWork(Bench.times("again 1[", 7), 3, 48, 0);
+        badWork(Bench.times("again 1[", 6) + "agains", 1, 48, 0);
+        Bench.due("six agains", new Bench().work(Bench.times("again 1[", 6) + "type 0 'a';" + Bench.times("];", 6)), 1);
+        Bench.due("seven agains, one by one", new Bench().work(Bench.times("again 1[];", 7)), 0);
         Bench bench = new Bench();
-        bench.feed(times(" ", 160));
+        bench.feed(Bench.times(" ", 160));
         bench.refuses("work(151)", () -> bench.parses.work(151));
         bench.refuses("work(-1)", () -> bench.parses.work(-1));
         Bench.due("count(1) behind work(-1)", bench.parses.count(1), 160);

@@ -19,17 +19,6 @@ public final class StateTest {
         Bench.close("StateTest");
     }
 
-    private static String text(Bench bench) {
-        StringBuilder text = new StringBuilder();
-        for (int place = 0; place < bench.parses.told(8); place++) text.append((char) bench.parses.sign(place));
-        return text.toString();
-    }
-
-    private static void textIs(Bench bench, String due) {
-        String text = text(bench);
-        Bench.due("the TEXT " + text + " is " + due, text.equals(due), true);
-    }
-
     private static void newObject() {
         PrunedParses parses = new Bench().parses;
         int[] due = {0, 0, 0, 0, 0, -1, 0, 0, 0, 0};
@@ -86,10 +75,10 @@ public final class StateTest {
         Bench.due("worth(0) behind a fault", bench.parses.worth(0), 7);
         bench.feed("x");
         bench.refuses("grammar(21)", () -> bench.parses.grammar(21));
-        textIs(bench, "a");
+        bench.textIs("a");
         Bench.due("told(7) behind a fault", bench.parses.told(7), 1);
         Bench.due("a grammar without clauses", bench.parses.grammar(0), 0);
-        textIs(bench, "");
+        bench.textIs("");
         for (int what = 0; what < 10; what++) Bench.due("told behind grammar(0)", bench.parses.told(what), what == 5 ? -1 : 0);
         for (int what = 0; what < 3; what++) Bench.due("count behind grammar(0)", bench.parses.count(what), 0);
         Bench.due("undo() behind grammar(0)", bench.parses.undo(), -1);
@@ -99,47 +88,41 @@ public final class StateTest {
         Bench.due("worth(0) without a law", bench.parses.worth(0), 1);
     }
 
-    private static void step(Bench bench, String steps, int done, int refused, String due) {
-        Bench.due("work " + steps, bench.work(steps), done);
-        Bench.due("told(9) behind " + steps, bench.parses.told(9), refused);
-        textIs(bench, due);
-    }
-
     private static void steps() {
         Bench bench = new Bench();
-        step(bench, "type 1 'a';", 0, 1, "");
-        step(bench, "type 0 'abcd';type 4 'ef';type 2 '-';", 3, 0, "ab-cdef");
-        step(bench, "cut 2 1;cut 6 1;cut 5 2;cut 0 0;cut 6 0;cut 7 0;", 1, 5, "abcdef");
-        step(bench, "cut 4 2;cut 0 1;", 2, 0, "bcd");
-        step(bench, "swap 0 2;swap 0 3;swap 3 0;swap 1 1;swap 2 1;", 2, 3, "dbc");
-        step(bench, "cut 0 3;type 0 '\\'\\\\ ]-[;';", 2, 0, "'\\ ]-[;");
+        bench.step("type 1 'a';", 0, 1, "");
+        bench.step("type 0 'abcd';type 4 'ef';type 2 '-';", 3, 0, "ab-cdef");
+        bench.step("cut 2 1;cut 6 1;cut 5 2;cut 0 0;cut 6 0;cut 7 0;", 1, 5, "abcdef");
+        bench.step("cut 4 2;cut 0 1;", 2, 0, "bcd");
+        bench.step("swap 0 2;swap 0 3;swap 3 0;swap 1 1;swap 2 1;", 2, 3, "dbc");
+        bench.step("cut 0 3;type 0 '\\'\\\\ ]-[;';", 2, 0, "'\\ ]-[;");
         // Both alike: SIGNS that are the same, at one place or at two.
-        step(bench, "cut 0 7;type 0 'aba';swap 0 2;swap 0 1;", 3, 1, "baa");
-        step(bench, "cut 0 3;type 0 '12345678';type 8 '12345678';type 16 '12345678';", 4, 0, "123456781234567812345678");
-        step(bench, "type 0 'a';type 24 'b';cut 24 1;cut 23 2;cut 23 1;type 23 'cd';type 23 'c';", 2, 5, "12345678123456781234567c");
-        step(bench, "cut 0 24;again 3[type 0 'a';again 2[type 0 'b';];];", 10, 0, "bbabbabba");
-        step(bench, "again 0[cut 0 1;];again 5[];cut 0 9;again 2[cut 0 1;];", 1, 2, "");
+        bench.step("cut 0 7;type 0 'aba';swap 0 2;swap 0 1;", 3, 1, "baa");
+        bench.step("cut 0 3;type 0 '12345678';type 8 '12345678';type 16 '12345678';", 4, 0, "123456781234567812345678");
+        bench.step("type 0 'a';type 24 'b';cut 24 1;cut 23 2;cut 23 1;type 23 'cd';type 23 'c';", 2, 5, "12345678123456781234567c");
+        bench.step("cut 0 24;again 3[type 0 'a';again 2[type 0 'b';];];", 10, 0, "bbabbabba");
+        bench.step("again 0[cut 0 1;];again 5[];cut 0 9;again 2[cut 0 1;];", 1, 2, "");
         // Where there is no SIGN any more there is none to change places with.
         bench = new Bench();
-        step(bench, "type 0 'abc';cut 2 1;swap 2 0;swap 0 2;swap 3 0;", 2, 3, "ab");
+        bench.step("type 0 'abc';cut 2 1;swap 2 0;swap 0 2;swap 3 0;", 2, 3, "ab");
         bench = new Bench();
-        step(bench, "again 3[type 0 'abcdefgh';];swap 24 0;swap 0 24;swap 23 0;", 4, 2, "hbcdefghabcdefghabcdefga");
+        bench.step("again 3[type 0 'abcdefgh';];swap 24 0;swap 0 24;swap 23 0;", 4, 2, "hbcdefghabcdefghabcdefga");
         bench = new Bench();
-        step(bench, "type 0 'abcd';again 3[swap 0 1;swap 1 2;];", 7, 0, "abcd");
-        step(bench, "again 2[again 3[swap 0 1;];again 0[swap 0 3;];swap 2 3;];", 8, 0, "abcd");
+        bench.step("type 0 'abcd';again 3[swap 0 1;swap 1 2;];", 7, 0, "abcd");
+        bench.step("again 2[again 3[swap 0 1;];again 0[swap 0 3;];swap 2 3;];", 8, 0, "abcd");
     }
 
     private static void limitOfSteps() {
         Bench bench = new Bench();
         // An again, and 5 STEPS each time: the 200th is the 4th one of the last time.
-        step(bench, "again 40[again 1[cut 0 0;];cut 0 0;cut 0 1;type 0 'a';];type 0 'b';", 78, 81, "");
+        bench.step("again 40[again 1[cut 0 0;];cut 0 0;cut 0 1;type 0 'a';];type 0 'b';", 78, 81, "");
         bench = new Bench();
-        step(bench, "again 40[again 40[again 40[];];];type 0 'a';", 0, 0, "");
+        bench.step("again 40[again 40[again 40[];];];type 0 'a';", 0, 0, "");
         bench = new Bench();
         // 1 + 4 * 39 + 1 + 41 + 1 are 200.
-        step(bench, "again 4[again 38[cut 0 0;];];type 0 'x';again 40[cut 0 0;];type 0 'y';type 0 'z';", 2, 192, "yx");
+        bench.step("again 4[again 38[cut 0 0;];];type 0 'x';again 40[cut 0 0;];type 0 'y';type 0 'z';", 2, 192, "yx");
         Bench.due("undo() of a WORK that was cut short", bench.parses.undo(), 0);
-        textIs(bench, "");
+        bench.textIs("");
     }
 
     private static void sixteenWorks() {
@@ -173,15 +156,15 @@ public final class StateTest {
         bench.workFault("cut 9 1;cut", 1, 11, 1);
         Bench.due("count(2)", bench.parses.count(2), 4);
         Bench.due("undo() of refused STEPS", bench.parses.undo(), 3);
-        textIs(bench, "bac");
+        bench.textIs("bac");
         Bench.due("undo() of no STEPS", bench.parses.undo(), 2);
-        textIs(bench, "bac");
+        bench.textIs("bac");
         Bench.due("is behind undo()", bench.parses.is(0, 1, 2), true);
         Bench.due("undo() of two STEPS", bench.parses.undo(), 1);
-        textIs(bench, "a");
+        bench.textIs("a");
         Bench.due("is behind undo() again", bench.parses.is(0, 0, 1), true);
         Bench.due("undo() of the first", bench.parses.undo(), 0);
-        textIs(bench, "");
+        bench.textIs("");
         Bench.due("undo() of none", bench.parses.undo(), -1);
         Bench.due("fault() behind undo()", bench.parses.fault(), 11);
     }
@@ -224,16 +207,16 @@ public final class StateTest {
         Bench.due("count(0) with 3", bench.parses.count(0), 3);
         bench.work("cut 0 3;");
         Bench.due("restore() 3", bench.parses.restore(), 2);
-        textIs(bench, "321");
+        bench.textIs("321");
         Bench.due("restore() 2", bench.parses.restore(), 1);
-        textIs(bench, "21");
+        bench.textIs("21");
         Bench.due("image() again", bench.parses.image(), 2);
         Bench.due("restore() again", bench.parses.restore(), 1);
-        textIs(bench, "21");
+        bench.textIs("21");
         Bench.due("restore() 1", bench.parses.restore(), 0);
-        textIs(bench, "1");
+        bench.textIs("1");
         Bench.due("restore() of none", bench.parses.restore(), -1);
-        textIs(bench, "1");
+        bench.textIs("1");
     }
 
     private static void restoring() {
@@ -248,7 +231,7 @@ public final class StateTest {
         bench.feed("abc");
         bench.refuses("sort(8, 0)", () -> bench.parses.sort(8, 0));
         Bench.due("restore()", bench.parses.restore(), 0);
-        textIs(bench, "ab");
+        bench.textIs("ab");
         Bench.due("told(7) behind restore()", bench.parses.told(7), 1);
         // Neither the LAW nor the TAPE nor what was refused is changed by WORK.
         Bench.due("worth(0) behind restore()", bench.parses.worth(0), 3);
@@ -256,9 +239,9 @@ public final class StateTest {
         Bench.due("status(1) behind restore()", bench.parses.status(1), 1);
         Bench.due("count(2) behind restore()", bench.parses.count(2), 2);
         Bench.due("undo() behind restore()", bench.parses.undo(), 1);
-        textIs(bench, "b");
+        bench.textIs("b");
         Bench.due("undo() behind restore()", bench.parses.undo(), 0);
-        textIs(bench, "");
+        bench.textIs("");
         // All sixteen WORKS are kept by an image.
         Bench full = new Bench();
         for (int k = 0; k < 16; k++) full.work("type 0 '" + (char) ('a' + k) + "';");
@@ -266,9 +249,9 @@ public final class StateTest {
         for (int k = 0; k < 16; k++) full.parses.undo();
         full.parses.restore();
         Bench.due("count(2) of a full image", full.parses.count(2), 16);
-        textIs(full, "ponmlkjihgfedcba");
+        full.textIs("ponmlkjihgfedcba");
         for (int k = 15; k >= 0; k--) Bench.due("undo() of a full image", full.parses.undo(), k);
-        textIs(full, "");
+        full.textIs("");
     }
 
     private static final String LETTERS = "class ~[];class [\\ -O];token 0;token 0 #0 #0 @0;token 1 #0;token 1 @1 #0;"
@@ -299,7 +282,7 @@ public final class StateTest {
             fitting += other.parses.told(7) & 1;
             if (other.parses.count(2) == 16) {
                 // Room for more WORKS: the TEXT goes on in another object.
-                other = Bench.with(LETTERS).type(text(other));
+                other = Bench.with(LETTERS).type(other.text());
             }
         }
         String name = "year(" + seed + ", " + n + ", ";
@@ -307,7 +290,7 @@ public final class StateTest {
         Bench.due(name + "1)", bench.parses.year(seed, n, 1), other.parses.told(7));
         Bench.due(name + "2)", bench.parses.year(seed, n, 2), refused);
         Bench.due(name + "3)", bench.parses.year(seed, n, 3), fitting);
-        textIs(bench, text);
+        bench.textIs(text);
     }
 
     private static void years() {
