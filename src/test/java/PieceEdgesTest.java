@@ -49,7 +49,7 @@ public final class PieceEdgesTest {
     }
 
     private static void run(Bench bench, int... due) {
-        for (int place = 0; place < due.length; place++) Bench.due("run(" + place + ") of " + bench.text(), bench.parses.run(place), due[place]);
+        for (int place = 0; place < due.length; place++) Bench.due("run(" + place + ") of " + bench.typed, bench.parses.run(place), due[place]);
     }
 
     private static void runs() {
@@ -91,7 +91,7 @@ public final class PieceEdgesTest {
     }
 
     private static void is(Bench bench, int sort, int i, int j, boolean due) {
-        Bench.due("is(" + sort + ", " + i + ", " + j + ") of " + bench.text(), bench.parses.is(sort, i, j), due);
+        Bench.due("is(" + sort + ", " + i + ", " + j + ") of " + bench.typed, bench.parses.is(sort, i, j), due);
     }
 
     /** Which pieces there are, of all from 0 on: "from to from to ..". */
@@ -100,7 +100,7 @@ public final class PieceEdgesTest {
         for (int i = 0; i <= length; i++) {
             int ends = 0;
             for (int k = 0; k < due.length; k += 2) ends |= due[k] == i ? 1 << due[k + 1] : 0;
-            Bench.due("ends(" + sort + ", " + i + ") of " + bench.text(), bench.parses.ends(sort, i), ends);
+            Bench.due("ends(" + sort + ", " + i + ") of " + bench.typed, bench.parses.ends(sort, i), ends);
         }
     }
 
@@ -430,7 +430,7 @@ public final class PieceEdgesTest {
     }
 
     private static void ways(Bench bench, int sort, int i, int j, int due) {
-        Bench.due("ways(" + sort + ", " + i + ", " + j + ") of " + bench.text(), bench.parses.ways(sort, i, j), due);
+        Bench.due("ways(" + sort + ", " + i + ", " + j + ") of " + bench.typed, bench.parses.ways(sort, i, j), due);
     }
 
     private static void waysRange() {

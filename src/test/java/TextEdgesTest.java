@@ -77,6 +77,11 @@ public final class TextEdgesTest {
         Bench.due("faulted()", other.parses.faulted(), -1);
         Bench.due("undo()", other.parses.undo(), -1);
         Bench.due("restore()", other.parses.restore(), -1);
+        Bench.edge(1, "used for at most 512 calls: the 512th is the last that answers as due");
+        PrunedParses used = new PrunedParses();
+        for (int call = 1; call < 511; call++) used.feed(0x72756c65, 0x20303b20, 0x20202020, 0x20202020, 0x20202020);
+        Bench.due("grammar(600) as the 511th call", used.grammar(600), -7);
+        Bench.due("fault() as the 512th call", used.fault(), 20 * 20);
         Bench.edge(1, "of its own, whatever other objects do");
         bench.grammar("rule 0;");
         bench.work("type 0 'a';");
