@@ -134,6 +134,42 @@ final class Bench {
         return all.toString();
     }
 
+    /** All that can be asked of an object, in few calls; what takes something from it comes last. */
+    static int[] answers(PrunedParses parses) {
+        int[] all = new int[500];
+        int many = 0;
+        for (int what = 0; what < 10; what++) all[many++] = parses.told(what);
+        for (int what = 0; what < 3; what++) all[many++] = parses.count(what);
+        all[many++] = parses.fault();
+        all[many++] = parses.faulted();
+        int length = parses.told(8);
+        for (int place = 0; place < length; place++) all[many++] = parses.sign(place);
+        for (int sort = 0; sort < 8; sort++) {
+            for (int i = 0; i <= length; i += 3) all[many++] = parses.ends(sort, i);
+            all[many++] = parses.height(sort, 0, length);
+            all[many++] = parses.nodes(sort, 0, length);
+            all[many++] = parses.worth(sort);
+            all[many++] = parses.wrong(sort, 0, 0);
+            for (int what = 0; what < 6; what++) all[many++] = parses.sort(sort, what);
+        }
+        for (int k = 0; k < all[0]; k++) all[many++] = parses.group(k, 0);
+        for (int k = 0; k < all[1]; k++) all[many++] = parses.production(k, 2);
+        for (int what = 0; what < 3 && length > 0; what++) all[many++] = parses.fits(0, 0, what);
+        all[many++] = parses.year(7, 24, 1);
+        all[many++] = parses.run(length);
+        all[many++] = parses.image();
+        while (parses.undo() >= 0) all[many++] = parses.told(8);
+        while (parses.restore() >= 0) {
+            all[many++] = parses.told(7);
+            all[many++] = parses.count(2);
+            all[many++] = parses.undo();
+            all[many++] = parses.told(8);
+        }
+        all[many++] = parses.grammar(parses.count(1));
+        all[many++] = parses.fault();
+        return all;
+    }
+
     void grammarFault(String text, int kind, int place, int clause) {
         fault("grammar " + text, grammar(text), kind, place, clause);
     }

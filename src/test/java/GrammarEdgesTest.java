@@ -224,6 +224,10 @@ public final class GrammarEdgesTest {
             + "class [a]|[b]-[a];class [abc]&[ab]-[a]|[z];class [a]-[a]|[a]-[a];");
         int[] many = {1, 2, 3, 1, 2, 1, 2, 0};
         for (int k = 0; k < many.length; k++) Bench.due("group(" + k + ", 0)", bench.parses.group(k, 0), many[k]);
+        Bench.edge(10, "| & - in the lower and in the upper half of the row of SIGNS");
+        bench = Bench.with("class [0-9a-f]-[5b];class [0-9a-f]&[5b];class [0-9a-f]|[Zz];class [0-9]-[0-9];class [a-f]-[a-f];class [0-9]-[a-f];class [a-f]&[0-9];");
+        int[] half = {14, 2, 18, 0, 0, 10, 0};
+        for (int k = 0; k < half.length; k++) Bench.due("group(" + k + ", 0)", bench.parses.group(k, 0), half[k]);
         Bench.edge(10, "CT: ~ is of the one CT behind it");
         bench = Bench.with("class ~[a]|[a];class ~[a]&[ab];class ~([a]&[ab]);class ~~[a];class ~~~[a];class ([ab])-~[a];class ~#0;");
         int[] more = {95, 1, 94, 1, 94, 1, 0};

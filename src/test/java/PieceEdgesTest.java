@@ -18,6 +18,7 @@ public final class PieceEdgesTest {
         escapes();
         bodiesWithinOthers();
         longBodies();
+        likeBodies();
         leastSets();
         endsRange();
         manyEnds();
@@ -384,6 +385,35 @@ public final class PieceEdgesTest {
         }
     }
 
+    private static void likeBodies() {
+        Bench.edge(18, "two bodies that differ by one SIGN, at each of 22 places");
+        String twentyTwo = Bench.times("a", 22);
+        for (int k = 0; k < 22; k++) {
+            Bench bench = Bench.with("class [a];token 0 #0;token 0 @0 #0;quote 1 0 '<>!';");
+            is(bench.type("<" + twentyTwo + ">"), 1, 0, 24, true);
+            is(bench.type("<" + twentyTwo.substring(0, k) + "b" + twentyTwo.substring(k + 1) + ">"), 1, 0, 24, false);
+            is(bench.type("<" + twentyTwo.substring(k) + ">"), 1, 0, 24 - k, true);
+            is(bench.type("<" + twentyTwo + ">"), 1, 0, 24, true);
+        }
+        Bench.edge(18, "the same BODY within none, within one, within two others");
+        Bench bench = Bench.with("token 0 'x';quote 0 0 '<>!';quote 0 0 '()!';quote 0 0 '{}!';quote 0 0 '[]!';");
+        bench.type("([x])<({[x]})>");
+        is(bench, 0, 0, 5, true);
+        is(bench, 0, 5, 14, false);
+        is(bench, 0, 6, 13, true);
+        is(bench.type("<({[x]})>([x])"), 0, 0, 9, false);
+        is(bench, 0, 9, 14, true);
+        is(bench, 0, 10, 13, true);
+        Bench.edge(18, "many more bodies than are kept");
+        bench = Bench.with("class ~[x];token 0;token 0 @0 #0;quote 1 0 '<>!';quote 1 0 '()!';");
+        for (int seed = 0; seed < 40; seed++) bench.parses.year(seed, 24, 3);
+        bench.type("<(ab)(cd)(ef)(xg)>(hij)");
+        is(bench, 1, 0, 18, false);
+        is(bench, 1, 1, 5, true);
+        is(bench, 1, 13, 17, false);
+        is(bench, 1, 18, 23, true);
+    }
+
     private static void leastSets() {
         Bench.edge(18, "the least sets of PIECES: what comes of itself alone is none");
         Bench bench = Bench.with("token 0 @0;token 1 @2;token 2 @1;token 3 @3 @3;token 4 @4;token 4 'a';token 5 @5 @5;token 5;").type("aa");
@@ -462,6 +492,10 @@ public final class PieceEdgesTest {
         bench = Bench.with("class ~[];token 1;token 1 @1 #0;quote 0 1 '<>!';quote 0 1 '<]!';quote 2 1 '<>!';").type("<>]");
         ways(bench, 0, 0, 2, 1);
         ways(bench, 0, 0, 3, 1);
+        bench.type("a<>]<>");
+        ways(bench, 0, 1, 3, 1);
+        ways(bench, 2, 4, 6, 1);
+        ways(bench, 0, 1, 4, 1);
         Bench.edge(20, "each with each row of places at which its EL begin and end");
         bench = Bench.with("class ~[];token 0;token 0 @0 #0;token 1 @0 @0;token 2 @0;token 3 @0 @0 @0;token 4 @0 @0 @0 @0;token 5 @0 'a' @0;token 6 @7 @7;token 7;");
         bench.type("a");

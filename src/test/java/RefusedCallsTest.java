@@ -59,38 +59,6 @@ public final class RefusedCallsTest {
         return bench.parses;
     }
 
-    /** All that can be asked of an object, in few calls; what takes something from it comes last. */
-    private static int[] answers(PrunedParses parses) {
-        int[] all = new int[500];
-        int many = 0;
-        for (int what = 0; what < 10; what++) all[many++] = parses.told(what);
-        for (int what = 0; what < 3; what++) all[many++] = parses.count(what);
-        all[many++] = parses.fault();
-        all[many++] = parses.faulted();
-        int length = parses.told(8);
-        for (int place = 0; place < length; place++) all[many++] = parses.sign(place);
-        for (int sort = 0; sort < 8; sort++) {
-            for (int i = 0; i <= length; i += 3) all[many++] = parses.ends(sort, i);
-            all[many++] = parses.height(sort, 0, length);
-            all[many++] = parses.nodes(sort, 0, length);
-            all[many++] = parses.worth(sort);
-            all[many++] = parses.wrong(sort, 0, 0);
-        }
-        all[many++] = parses.year(7, 24, 1);
-        all[many++] = parses.run(length);
-        all[many++] = parses.image();
-        while (parses.undo() >= 0) all[many++] = parses.told(8);
-        while (parses.restore() >= 0) {
-            all[many++] = parses.told(7);
-            all[many++] = parses.count(2);
-            all[many++] = parses.undo();
-            all[many++] = parses.told(8);
-        }
-        all[many++] = parses.grammar(parses.count(1));
-        all[many++] = parses.fault();
-        return all;
-    }
-
     /** Refused is the exception that is due: 0 NoSuchElementException, 1 IllegalArgumentException, -1 none. */
     private static void changesNothing(String what, PrunedParses parses, PrunedParses twin, int refused, Refused call) {
         int[] status = {parses.status(0), parses.status(1)};
@@ -104,8 +72,8 @@ public final class RefusedCallsTest {
         }
         Bench.due(what + " throws (0 NoSuchElementException, 1 IllegalArgumentException, -1 nothing)", thrown, refused);
         for (int k = 0; k < 2; k++) Bench.due("status(" + k + ") behind " + what, parses.status(k), refused == k ? status[k] + 1 : status[k]);
-        int[] answers = answers(parses);
-        int[] due = answers(twin);
+        int[] answers = Bench.answers(parses);
+        int[] due = Bench.answers(twin);
         for (int k = 0; k < due.length; k++) Bench.due("answer " + k + " behind " + what, answers[k], due[k]);
     }
 

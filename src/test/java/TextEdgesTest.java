@@ -11,6 +11,7 @@ public final class TextEdgesTest {
         lengthOfGrammar();
         whatGrammarAnswers();
         whatStaysAndGoes();
+        nothingOfOthers();
         clauses();
         classes();
         productions();
@@ -30,6 +31,8 @@ public final class TextEdgesTest {
         blanks();
         cutShort();
         opens();
+        faultsAheadOfTheEnd();
+        opensOfOtherTexts();
         leastOfOnePlace();
         firstFromTheLeft();
         needsWhatDropsIt();
@@ -239,6 +242,38 @@ public final class TextEdgesTest {
         for (int what = 0; what < 10; what++) Bench.due("told(" + what + ")", none.parses.told(what), what == 5 ? -1 : 0);
         Bench.due("undo()", none.parses.undo(), -1);
         Bench.due("restore()", none.parses.restore(), -1);
+    }
+
+    /** Each as unlike the others as can be. */
+    private static final String[] GRAMMARS = {
+        "class [a-m];class ~#0;rule 0 'ab' @1 #0;rule 1;token 1 @0 'b';quote 2 1 '<>!';quote 5 0 '()?';not 1 #0;not 0 #1;drop 3 0;drop 6 3;lay #0;rule 7 @3 @6;",
+        "class [0-9];token 1 #0;", "rule 4 @5 @5 @5 'c';rule 5;token 6 'a' 'b' 'c' 'd';drop 4 2;", "",
+        "class [a-z];class [(];class [)];token 0 #0;quote 1 0 '()!';token 3 #1 #0 #2;lay #2;", "token 0 @1;token 1 'a';"};
+
+    private static void nothingOfOthers() {
+        Bench.edge(3, "nothing stays of the GRAMMARS ahead, with a FAULT or without");
+        for (int last = 0; last < GRAMMARS.length; last++) {
+            for (int first = 0; first < GRAMMARS.length; first++) {
+                Bench bench = new Bench();
+                bench.grammar(GRAMMARS[first]);
+                bench.type("(a)");
+                bench.parses.told(7);
+                String faulty = GRAMMARS[(first + last) % GRAMMARS.length];
+                bench.grammar(faulty + "rule 0 'x' @9;");
+                bench.grammar(faulty + "drop 1 2;drop 2 1;");
+                bench.grammar(GRAMMARS[(first + 1) % GRAMMARS.length]);
+                bench.grammar(GRAMMARS[last]);
+                bench.type("(a)");
+                Bench fresh = Bench.with(GRAMMARS[last]).type("(a)");
+                answersAlike(bench, fresh, GRAMMARS[last] + " behind " + GRAMMARS[first]);
+            }
+        }
+    }
+
+    private static void answersAlike(Bench bench, Bench fresh, String name) {
+        int[] answers = Bench.answers(bench.parses);
+        int[] due = Bench.answers(fresh.parses);
+        for (int k = 0; k < due.length; k++) Bench.due("answer " + k + " of " + name, answers[k], due[k]);
     }
 
     private static void clauses() {
@@ -699,6 +734,58 @@ public final class TextEdgesTest {
         bad("class (((((([a]))))|((([b]))|(((([c]", 3, 32, 0);
         Bench.edge(3, "in one CLASS none are open from the one ahead");
         good("class ~~~~~~[a];class ~~~~~~[a];class (((((([a]))))));", 0);
+    }
+
+    private static void faultsAheadOfTheEnd() {
+        Bench.edge(3, "a FAULT is one, though a CLAUSE could end just behind it");
+        bad("class;", 1, 5, 0);
+        bad("class [ ;", 1, 7, 0);
+        bad("class [a- ;", 1, 9, 0);
+        bad("class #0;", 2, 7, 0);
+        bad("class ~;", 1, 7, 0);
+        bad("class [a]|;", 1, 10, 0);
+        bad("class ([a];", 1, 10, 0);
+        bad("rule;", 1, 4, 0);
+        bad("rule 8;", 2, 5, 0);
+        bad("rule 0 #;", 1, 8, 0);
+        bad("rule 0 #0;", 2, 8, 0);
+        bad("rule 0 @8;", 2, 8, 0);
+        bad("quote;", 1, 5, 0);
+        bad("quote 8;", 2, 6, 0);
+        bad("quote 0;", 1, 7, 0);
+        bad("quote 0 8;", 2, 8, 0);
+        bad("quote 0 0;", 1, 9, 0);
+        bad("quote 8 0 'abc';", 2, 6, 0);
+        bad("quote 0 0 'abcd';", 2, 15, 0);
+        bad("quote 0 0 abc';", 1, 10, 0);
+        bad("not;", 1, 3, 0);
+        bad("not 8;", 2, 4, 0);
+        bad("class [a];not 8 #0;", 2, 14, 1);
+        bad("not 0;", 1, 5, 0);
+        bad("not 0 #0;", 2, 7, 0);
+        bad("drop;", 1, 4, 0);
+        bad("drop 8;", 2, 5, 0);
+        bad("drop 8 0;", 2, 5, 0);
+        bad("drop 0;", 1, 6, 0);
+        bad("drop 0 8;", 2, 7, 0);
+        bad("lay;", 1, 3, 0);
+        bad("lay #;", 1, 5, 0);
+        bad("lay #0;", 2, 5, 0);
+    }
+
+    private static void opensOfOtherTexts() {
+        Bench.edge(3, "none are open from the text ahead, whatever its FAULT was");
+        Bench bench = new Bench();
+        for (int round = 0; round < 3; round++) {
+            bench.grammarFault("class ((((((?", 1, 12, 0);
+            Bench.due("grammar", bench.grammar("class ~~~~~~[a];rule 0;"), 1);
+            bench.grammarFault("class ~~~~~~~[a];", 3, 12, 0);
+            Bench.due("law", bench.law("((((((1))))))"), 1);
+            bench.lawFault("((((((1", 1, 7);
+            Bench.due("work", bench.work(Bench.times("again1[", 6) + "cut 0 0;" + Bench.times("];", 6)), 0);
+            bench.workFault(Bench.times("again1[", 6) + "cut", 1, 45, 0);
+            Bench.due("grammar", bench.grammar("class (((((([a]))))));"), 0);
+        }
     }
 
     private static void leastOfOnePlace() {

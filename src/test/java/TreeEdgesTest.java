@@ -206,6 +206,24 @@ public final class TreeEdgesTest {
         bench.type(Bench.times("a", 24));
         for (int k = 0; k < 25; k++) node(bench, 0, k, 0, k, 24, 25 - k, 1, k);
         node(bench, 0, 25);
+        Bench.edge(23, "of the TEXT as it stands, whichever PIECES were asked for before");
+        Bench other = Bench.with("token 0 'a';token 0 @0 @0;token 0 'bb';").type("aaa");
+        nodes(other, 0, 0, 3, 5);
+        nodes(other, 0, 1, 3, 3);
+        nodes(other, 0, 0, 3, 5);
+        nodes(other, 0, 0, 2, 3);
+        nodes(other, 0, 0, 1, 1);
+        nodes(other, 0, 0, 3, 5);
+        nodes(other, 0, 2, 3, 1);
+        node(other, 0, 0, 0, 0, 3, 3, 2, 0);
+        nodes(other, 0, 2, 3, 1);
+        Bench.due("worth(0) behind nodes(0, 2, 3)", other.parses.worth(0), 5);
+        nodes(other.type("abb"), 0, 0, 3, 3);
+        node(other, 0, 2, 0, 1, 3, 1, 1, 1);
+        nodes(other.type("bba"), 0, 0, 3, 3);
+        node(other, 0, 1, 0, 0, 2, 1, 1, 1);
+        nodes(other.type("bbb"), 0, 0, 3, 0);
+        nodes(other, 1, 0, 3, 0);
         Bench.edge(23, "a node ahead of those behind it, these from the left");
         bench = Bench.with("token 0 @1 @2 @3 @4;token 1 @5 'a' @5;token 2 'b';token 3 @5;token 4 @2;token 5;").type("abb");
         int[][] due = {{0, 0, 3, 3, 1, 0}, {1, 0, 1, 2, 1, 1}, {5, 0, 0, 1, 1, 2}, {5, 1, 1, 1, 1, 2}, {2, 1, 2, 1, 1, 1}, {3, 2, 2, 2, 1, 1},
@@ -565,6 +583,22 @@ public final class TreeEdgesTest {
         fits(bench.type("<aa>"), 3, 1, 93, 32, 1);
         fits(bench.type("xa>"), 1, 0, 1, '<', -1);
         fits(bench.type("<ax"), 1, 2, 1, '>', -1);
+        for (int k = 0; k < 4; k++) {
+            bench = Bench.with("class ~[];token 0 #0;" + Bench.times("quote 7 7 '=*/';", k) + "quote 1 0 '<>!';").type("<a>");
+            fits(bench, 1, 0, 1, '<', -1);
+            fits(bench, 1, 2, 1, '>', -1);
+            fits(bench.type("<aa>"), 1, 1, 1, '!', -1);
+        }
+        Bench.edge(29, "within quotes: a BODY within two others, not one within three");
+        bench = Bench.with("class [xy];token 0 #0;quote 0 0 '<>!';quote 0 0 '()!';quote 0 0 '{}!';quote 0 0 '[]!';");
+        fits(bench.type("<({z})>"), 0, 3, 2, 'x', 0);
+        fits(bench.type("<({[x]})>"), 0, 4, 0, -1, -1);
+        Bench.edge(29, "the least SIGN of all fits as others do, whatever was asked before");
+        bench = Bench.with("class ~[];token 0 #0 @1;token 1 'z';token 2 @1 #0;").type("xz");
+        fits(bench, 0, 0, 95, 32, 0);
+        fits(bench.type("xxz"), 0, 0, 0, -1, -1);
+        fits(bench.type("xz"), 0, 0, 95, 32, 0);
+        fits(bench.type("zz"), 2, 1, 95, 32, 0);
         Bench.edge(29, "a SIGN that is layout, that may not follow, that makes what is dropped");
         bench = Bench.with("class [\\ _];lay #0;class [a-c];rule 0 #1 #1;token 1 'a';not 1 #1;token 2 @1 #0;token 2 @1 'b';token 3 #1 #1;token 4 'ab';drop 3 4;");
         fits(bench.type("axb"), 0, 1, 2, 32, 0);
@@ -603,6 +637,10 @@ public final class TreeEdgesTest {
         most(Bench.with("token 0 'a';token 7 'a';token 7 'b';").type("ab"), 7, 2);
         most(Bench.with("token 7 'a';token 0 'a';token 0 'b';").type("ab"), 0, 2);
         most(Bench.with("class ~[];token 3;token 3 @3 #0;").type(Bench.times("a", 24)), 3, 325);
+        for (int sort = 0; sort < 8; sort++) {
+            int other = (sort + 3) % 8;
+            most(Bench.with("token " + other + " 'a';token " + sort + " 'a';token " + sort + " 'b';").type("ab"), sort, 2);
+        }
         Bench.edge(30, "of alike ones the first");
         most(Bench.with("token 6 'a';token 5 'a';token 4 'b';").type("ab"), 4, 1);
         most(Bench.with("token 0 'b';token 7 'a';").type("aab"), 7, 2);

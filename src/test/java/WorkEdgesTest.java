@@ -87,11 +87,15 @@ public final class WorkEdgesTest {
         Bench.due("law(1)", bench.law("6"), 1);
         Bench.due("worth(0)", bench.parses.worth(0), 6);
         Bench.edge(4, "the FAULT less 10; all but the TAPE stays");
+        String[] faulty = {"7+", "7*1000", "(((((((7", "", "8 9", "deep*"};
+        int[][] due = {{1, 2}, {2, 2}, {3, 6}, {1, 0}, {1, 2}, {1, 5}};
+        for (int k = 0; k < faulty.length; k++) {
+            bench.lawFault(faulty[k], due[k][0], due[k][1]);
+            Bench.due("worth(0) behind law " + faulty[k], bench.parses.worth(0), 6);
+        }
+        bench.law("4");
         bench.lawFault("7+", 1, 2);
-        bench.lawFault("7*1000", 2, 2);
-        bench.lawFault("(((((((7", 3, 6);
-        bench.lawFault("", 1, 0);
-        Bench.due("worth(0) behind FAULTS", bench.parses.worth(0), 6);
+        Bench.due("worth(0) of another LAW", bench.parses.worth(0), 4);
         bench.textIs("a");
         Bench.due("count(2)", bench.parses.count(2), 1);
         Bench.edge(4, "without a FAULT all else stays, too");
@@ -232,6 +236,16 @@ public final class WorkEdgesTest {
             else badLaw(cut, 1, place);
         }
         goodLaw(text);
+        Bench.edge(4, "a FAULT is one, though the LAW could go on behind it");
+        badLaw("least 1,1]", 1, 6);
+        badLaw("least[1 1]", 1, 8);
+        badLaw("least[1,1)", 1, 9);
+        badLaw("least[,1]", 1, 6);
+        badLaw("least[1,]", 1, 8);
+        badLaw("(1]", 1, 2);
+        badLaw("()", 1, 1);
+        badLaw("1000+1", 2, 0);
+        badLaw("sorts+1", 1, 0);
         Bench.edge(4, "blanks may stand ahead of all names, numbers and signs of a LAW");
         goodLaw("  least  [  1  ,  most  [  2  ,  (  3  )  ]  ]  *  (  to  -  0  )  ");
         badLaw("le ast[1,2]", 1, 0);
@@ -265,7 +279,9 @@ public final class WorkEdgesTest {
         goodLaw("least[((((1)))),((((2))))]+most[((((1)))),((((2))))]");
         goodLaw("least[(((((1))))),(((((2)))))]");
         badLaw("least[(((((1))))),((((((2))))))]", 3, 23);
-        for (int k = 0; k < 3; k++) goodLaw("least[1,1]+least[1,1]+most[1,1]+most[1,1]+(1)+(1)+(1)+(1)");
+        goodLaw("least[1,1]" + Bench.times("+least[1,1]", 8));
+        goodLaw("most[1,1]" + Bench.times("+most[1,1]", 8));
+        goodLaw("(1)" + Bench.times("+(1)", 8));
     }
 
     private static void lengthOfWork() {
@@ -379,6 +395,25 @@ public final class WorkEdgesTest {
         new Bench().workFault("cut 0 1;]", 1, 8, 1);
         new Bench().workFault("cut 0 1 cut 0 1;", 1, 8, 0);
         new Bench().workFault("rule 0;", 1, 0, 0);
+        Bench.edge(5, "a FAULT is one, though a STEP could end just behind it");
+        new Bench().workFault("type;", 1, 4, 0);
+        new Bench().workFault("type 25;", 2, 5, 0);
+        new Bench().workFault("type 0;", 1, 6, 0);
+        new Bench().workFault("type 0 a';", 1, 7, 0);
+        new Bench().workFault("type 25 'a';", 2, 5, 0);
+        new Bench().workFault("cut 25;", 2, 4, 0);
+        new Bench().workFault("cut 0;", 1, 5, 0);
+        new Bench().workFault("swap 25;", 2, 5, 0);
+        new Bench().workFault("swap 0;", 1, 6, 0);
+        new Bench().workFault("again;", 1, 5, 0);
+        new Bench().workFault("again 41;", 2, 6, 0);
+        new Bench().workFault("again 1;", 1, 7, 0);
+        new Bench().workFault("again 1];", 1, 7, 0);
+        new Bench().workFault("again 1 cut 0 1;];", 1, 8, 0);
+        new Bench().workFault("again 1[cut 0 1;;", 1, 16, 0);
+        new Bench().workFault("again 1[cut;", 1, 11, 0);
+        new Bench().workFault("again 1[cut 0 1];", 1, 15, 0);
+        new Bench().workFault(Bench.times("again 1[", 6) + "again;" + Bench.times("];", 6), 3, 48, 0);
         Bench.edge(5, "WORD of a type: 1 to 8 SIGNS");
         new Bench().workFault("type 0 '';", 1, 8, 0);
         new Bench().step("type 0 'a';", 1, 0, "a");

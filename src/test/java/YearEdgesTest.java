@@ -168,6 +168,15 @@ public final class YearEdgesTest {
         Bench.due("there was one without", none, true);
         Bench without = new Bench();
         for (int seed = 0; seed < 9; seed++) Bench.due("year(" + seed + ", 24, 3) without a GRAMMAR", without.parses.year(seed, 24, 3), 0);
+        Bench.edge(31, "1 and 3 of a TEXT of quotes within quotes, that one edit leaves as it is");
+        Bench quotes = Bench.with("token 0 'x';quote 0 0 '<>!';quote 0 0 '()!';quote 0 0 '{}!';").type("<({x})>");
+        int idle = 0;
+        for (int seed = 0; seed < 400; seed++) {
+            if (new Year("<({x})>", seed, 1).refused == 1) idle = seed;
+        }
+        Bench.due("year(" + idle + ", 1, 1)", quotes.parses.year(idle, 1, 1), 1);
+        Bench.due("year(" + idle + ", 1, 3)", quotes.parses.year(idle, 1, 3), 1);
+        Bench.due("span(" + idle + ", 1, 1, 2, 0)", quotes.parses.span(idle, 1, 1, 2, 0), 1);
         Bench.edge(31, "3 in all of these times");
         Bench all = Bench.with("class ~[];token 0;token 0 @0 #0;");
         Bench.due("year(1, 24, 3)", all.parses.year(1, 24, 3), 24);
