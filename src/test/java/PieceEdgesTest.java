@@ -249,6 +249,11 @@ public final class PieceEdgesTest {
         Bench.edge(18, "drops: one of many is enough, of a SORT without PIECES none goes");
         bench = Bench.with("token 0 'a';token 0 'b';token 0 'c';token 1 'a';token 2 'b';drop 0 1;drop 0 2;drop 0 3;");
         pieces(bench.type("abc"), 0, 2, 3);
+        Bench.edge(18, "drops: of the first SORT from the last, of the last from the first");
+        bench = Bench.with("token 0 'a';token 7 'a';token 7 'b';drop 7 0;");
+        pieces(bench.type("ab"), 7, 1, 2);
+        bench = Bench.with("token 7 'a';token 0 'a';token 0 'b';drop 0 7;");
+        pieces(bench.type("ab"), 0, 1, 2);
         Bench.edge(18, "drops: an empty PIECE");
         bench = Bench.with("token 0;token 0 'a';token 1;drop 0 1;token 2;token 2 'a';drop 2 3;token 3 'a';");
         pieces(bench.type("a"), 0, 0, 1);
@@ -394,6 +399,14 @@ public final class PieceEdgesTest {
             is(bench.type("<" + twentyTwo.substring(0, k) + "b" + twentyTwo.substring(k + 1) + ">"), 1, 0, 24, false);
             is(bench.type("<" + twentyTwo.substring(k) + ">"), 1, 0, 24 - k, true);
             is(bench.type("<" + twentyTwo + ">"), 1, 0, 24, true);
+        }
+        // Each bit of a SIGN tells it from another one.
+        for (char sign : "`ceiqA!".toCharArray()) {
+            for (int k = 0; k < 22; k += 3) {
+                Bench bench = Bench.with("class [a];token 0 #0;token 0 @0 #0;quote 1 0 '<>?';");
+                is(bench.type("<" + twentyTwo + ">"), 1, 0, 24, true);
+                is(bench.type("<" + twentyTwo.substring(0, k) + sign + twentyTwo.substring(k + 1) + ">"), 1, 0, 24, false);
+            }
         }
         Bench.edge(18, "the same BODY within none, within one, within two others");
         Bench bench = Bench.with("token 0 'x';quote 0 0 '<>!';quote 0 0 '()!';quote 0 0 '{}!';quote 0 0 '[]!';");

@@ -224,6 +224,13 @@ public final class TreeEdgesTest {
         node(other, 0, 1, 0, 0, 2, 1, 1, 1);
         nodes(other.type("bbb"), 0, 0, 3, 0);
         nodes(other, 1, 0, 3, 0);
+        other = Bench.with("token 0;token 0 @0 'a';token 1;").type("aaa");
+        nodes(other, 0, 0, 3, 4);
+        nodes(other, 0, 0, 0, 1);
+        nodes(other, 0, 0, 3, 4);
+        nodes(other, 1, 0, 0, 1);
+        nodes(other, 0, 3, 3, 1);
+        node(other, 0, 3, 0, 0, 0, 1, 1, 3);
         Bench.edge(23, "a node ahead of those behind it, these from the left");
         bench = Bench.with("token 0 @1 @2 @3 @4;token 1 @5 'a' @5;token 2 'b';token 3 @5;token 4 @2;token 5;").type("abb");
         int[][] due = {{0, 0, 3, 3, 1, 0}, {1, 0, 1, 2, 1, 1}, {5, 0, 0, 1, 1, 2}, {5, 1, 1, 1, 1, 2}, {2, 1, 2, 1, 1, 1}, {3, 2, 2, 2, 1, 1},
@@ -589,6 +596,8 @@ public final class TreeEdgesTest {
             fits(bench, 1, 2, 1, '>', -1);
             fits(bench.type("<aa>"), 1, 1, 1, '!', -1);
         }
+        fits(Bench.with("token 0 'ab';").type("xb"), 0, 0, 1, 'a', -1);
+        fits(Bench.with("rule 0 @1;token 1 'y' 'ab';").type("yax"), 0, 2, 1, 'b', -1);
         Bench.edge(29, "within quotes: a BODY within two others, not one within three");
         bench = Bench.with("class [xy];token 0 #0;quote 0 0 '<>!';quote 0 0 '()!';quote 0 0 '{}!';quote 0 0 '[]!';");
         fits(bench.type("<({z})>"), 0, 3, 2, 'x', 0);
