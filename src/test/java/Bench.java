@@ -170,6 +170,19 @@ final class Bench {
         return all;
     }
 
+    /** A GRAMMAR that is without a FAULT, in an object of its own. */
+    static void good(String text, int productions) {
+        Bench bench = new Bench();
+        due("grammar " + text, bench.grammar(text), productions);
+        due("fault() of grammar " + text, bench.parses.fault(), -1);
+        due("faulted() of grammar " + text, bench.parses.faulted(), -1);
+    }
+
+    /** A GRAMMAR with a FAULT, in an object of its own. */
+    static void bad(String text, int kind, int place, int clause) {
+        new Bench().grammarFault(text, kind, place, clause);
+    }
+
     void grammarFault(String text, int kind, int place, int clause) {
         fault("grammar " + text, grammar(text), kind, place, clause);
     }

@@ -15,187 +15,176 @@ public final class FaultsTest {
         Bench.close("FaultsTest");
     }
 
-    private static void good(String text, int productions) {
-        Bench bench = new Bench();
-        Bench.due("grammar " + text, bench.grammar(text), productions);
-        Bench.due("fault() of grammar " + text, bench.parses.fault(), -1);
-        Bench.due("faulted() of grammar " + text, bench.parses.faulted(), -1);
-    }
-
-    private static void bad(String text, int kind, int place, int clause) {
-        new Bench().grammarFault(text, kind, place, clause);
-    }
-
     private static void clauses() {
-        good("", 0);
-        good("   ", 0);
-        good("rule 0;", 1);
-        good("rule0;token7@7;", 2);
-        good("  rule  0  'a' @ 0 ; class [a] ; token 1 # 0 ;  ", 2);
-        good("class[a];lay#0;lay # 0;not 0#0;drop 0 1;quote 0 1'abc';", 0);
-        bad("class", 1, 5, 0);
-        bad("class ", 1, 6, 0);
-        bad("rule", 1, 4, 0);
-        bad("rule 0", 1, 6, 0);
-        bad("rule 0;;", 1, 7, 1);
-        bad("rule 0;x", 1, 7, 1);
-        bad("rule 0;rules 0;", 1, 7, 1);
-        bad("Rule 0;", 1, 0, 0);
-        bad("rulez 0;", 1, 0, 0);
-        bad("tule 0;", 1, 0, 0);
-        bad("rul 0;", 1, 0, 0);
-        bad("rule 0 ;\t", 1, 8, 1);
-        bad("rule 0 \n;", 1, 7, 0);
-        bad("class [a] class [b];", 1, 10, 0);
-        bad("rule x;", 1, 5, 0);
-        bad("rule -1;", 1, 5, 0);
-        bad("lay 0;", 1, 4, 0);
-        bad("class [a];lay #;", 1, 15, 1);
-        bad("not 0 0;", 1, 6, 0);
-        bad("drop 0;", 1, 6, 0);
-        bad("quote 0 'abc';", 1, 8, 0);
-        bad("quote 0 1;", 1, 9, 0);
-        bad("quote 0 1 'abc' 'abc';", 1, 16, 0);
-        bad("rule 0 0;", 1, 7, 0);
-        bad("rule 0 @;", 1, 8, 0);
+        Bench.good("", 0);
+        Bench.good("   ", 0);
+        Bench.good("rule 0;", 1);
+        Bench.good("rule0;token7@7;", 2);
+        Bench.good("  rule  0  'a' @ 0 ; class [a] ; token 1 # 0 ;  ", 2);
+        Bench.good("class[a];lay#0;lay # 0;not 0#0;drop 0 1;quote 0 1'abc';", 0);
+        Bench.bad("class", 1, 5, 0);
+        Bench.bad("class ", 1, 6, 0);
+        Bench.bad("rule", 1, 4, 0);
+        Bench.bad("rule 0", 1, 6, 0);
+        Bench.bad("rule 0;;", 1, 7, 1);
+        Bench.bad("rule 0;x", 1, 7, 1);
+        Bench.bad("rule 0;rules 0;", 1, 7, 1);
+        Bench.bad("Rule 0;", 1, 0, 0);
+        Bench.bad("rulez 0;", 1, 0, 0);
+        Bench.bad("tule 0;", 1, 0, 0);
+        Bench.bad("rul 0;", 1, 0, 0);
+        Bench.bad("rule 0 ;\t", 1, 8, 1);
+        Bench.bad("rule 0 \n;", 1, 7, 0);
+        Bench.bad("class [a] class [b];", 1, 10, 0);
+        Bench.bad("rule x;", 1, 5, 0);
+        Bench.bad("rule -1;", 1, 5, 0);
+        Bench.bad("lay 0;", 1, 4, 0);
+        Bench.bad("class [a];lay #;", 1, 15, 1);
+        Bench.bad("not 0 0;", 1, 6, 0);
+        Bench.bad("drop 0;", 1, 6, 0);
+        Bench.bad("quote 0 'abc';", 1, 8, 0);
+        Bench.bad("quote 0 1;", 1, 9, 0);
+        Bench.bad("quote 0 1 'abc' 'abc';", 1, 16, 0);
+        Bench.bad("rule 0 0;", 1, 7, 0);
+        Bench.bad("rule 0 @;", 1, 8, 0);
     }
 
     private static void numbers() {
-        good("rule 007;", 1);
-        good("class [a];rule 0 #000;", 1);
-        bad("rule 8;", 2, 5, 0);
-        bad("rule 99999999999999999999;", 2, 5, 0);
-        bad("rule 4294967296;", 2, 5, 0);
-        bad("rule 0 @8;", 2, 8, 0);
-        bad("rule 0 #0;", 2, 8, 0);
-        bad("class [a];rule 0 # 1;", 2, 19, 1);
-        bad("class #0;", 2, 7, 0);
-        bad("class [a]|#0;class [b]|#1;", 2, 11, 0);
-        bad("lay #0;", 2, 5, 0);
-        bad("class [a];not 0 #1;", 2, 17, 1);
-        bad("not 8 #0;", 2, 4, 0);
-        bad("drop 8 0;", 2, 5, 0);
-        bad("drop 0 8;", 2, 7, 0);
-        bad("drop 1 1;", 2, 7, 0);
-        bad("drop 1 01;", 2, 7, 0);
-        bad("quote 8 0 'abc';", 2, 6, 0);
-        bad("quote 0 8 'abc';", 2, 8, 0);
+        Bench.good("rule 007;", 1);
+        Bench.good("class [a];rule 0 #000;", 1);
+        Bench.bad("rule 8;", 2, 5, 0);
+        Bench.bad("rule 99999999999999999999;", 2, 5, 0);
+        Bench.bad("rule 4294967296;", 2, 5, 0);
+        Bench.bad("rule 0 @8;", 2, 8, 0);
+        Bench.bad("rule 0 #0;", 2, 8, 0);
+        Bench.bad("class [a];rule 0 # 1;", 2, 19, 1);
+        Bench.bad("class #0;", 2, 7, 0);
+        Bench.bad("class [a]|#0;class [b]|#1;", 2, 11, 0);
+        Bench.bad("lay #0;", 2, 5, 0);
+        Bench.bad("class [a];not 0 #1;", 2, 17, 1);
+        Bench.bad("not 8 #0;", 2, 4, 0);
+        Bench.bad("drop 8 0;", 2, 5, 0);
+        Bench.bad("drop 0 8;", 2, 7, 0);
+        Bench.bad("drop 1 1;", 2, 7, 0);
+        Bench.bad("drop 1 01;", 2, 7, 0);
+        Bench.bad("quote 8 0 'abc';", 2, 6, 0);
+        Bench.bad("quote 0 8 'abc';", 2, 8, 0);
     }
 
     private static void words() {
-        good("rule 0 '12345678';", 1);
-        good("rule 0 '] - [';", 1);
-        good("rule 0 '\\'\\\\\\ \\a';", 1);
-        bad("rule 0 '';", 1, 8, 0);
-        bad("rule 0 '", 1, 8, 0);
-        bad("rule 0 'abc", 1, 11, 0);
-        bad("rule 0 'abc\\", 1, 12, 0);
-        bad("rule 0 'abc\\'", 1, 13, 0);
-        bad("rule 0 'a\u0001';", 1, 9, 0);
-        bad("rule 0 'a\u007f';", 1, 9, 0);
-        bad("rule 0 'a\u00ff';", 1, 9, 0);
-        bad("rule 0 'a\\\u001f';", 1, 10, 0);
-        bad("rule 0 '123456789';", 2, 17, 0);
-        bad("rule 0 '1234567890ab';", 2, 20, 0);
-        bad("rule 0 '1234567890ab", 1, 20, 0);
-        bad("rule 0 '1234567890\u0001ab';", 1, 18, 0);
-        good("quote 0 0 'aab';", 0);
-        good("quote 0 0 '\\'\\'\\\\';", 0);
-        bad("quote 0 0 '';", 1, 11, 0);
-        bad("quote 0 0 'ab';", 2, 13, 0);
-        bad("quote 0 0 'abcd';", 2, 15, 0);
-        bad("quote 0 0 'a\\bcd';", 2, 16, 0);
-        bad("quote 0 0 '123456789';", 2, 20, 0);
-        bad("quote 0 0 'ab", 1, 13, 0);
-        bad("quote 0 0  'aba';", 2, 11, 0);
-        bad("quote 0 0 'abb';", 2, 10, 0);
-        bad("quote 0 0 'aaa';", 2, 10, 0);
+        Bench.good("rule 0 '12345678';", 1);
+        Bench.good("rule 0 '] - [';", 1);
+        Bench.good("rule 0 '\\'\\\\\\ \\a';", 1);
+        Bench.bad("rule 0 '';", 1, 8, 0);
+        Bench.bad("rule 0 '", 1, 8, 0);
+        Bench.bad("rule 0 'abc", 1, 11, 0);
+        Bench.bad("rule 0 'abc\\", 1, 12, 0);
+        Bench.bad("rule 0 'abc\\'", 1, 13, 0);
+        Bench.bad("rule 0 'a\u0001';", 1, 9, 0);
+        Bench.bad("rule 0 'a\u007f';", 1, 9, 0);
+        Bench.bad("rule 0 'a\u00ff';", 1, 9, 0);
+        Bench.bad("rule 0 'a\\\u001f';", 1, 10, 0);
+        Bench.bad("rule 0 '123456789';", 2, 17, 0);
+        Bench.bad("rule 0 '1234567890ab';", 2, 20, 0);
+        Bench.bad("rule 0 '1234567890ab", 1, 20, 0);
+        Bench.bad("rule 0 '1234567890\u0001ab';", 1, 18, 0);
+        Bench.good("quote 0 0 'aab';", 0);
+        Bench.good("quote 0 0 '\\'\\'\\\\';", 0);
+        Bench.bad("quote 0 0 '';", 1, 11, 0);
+        Bench.bad("quote 0 0 'ab';", 2, 13, 0);
+        Bench.bad("quote 0 0 'abcd';", 2, 15, 0);
+        Bench.bad("quote 0 0 'a\\bcd';", 2, 16, 0);
+        Bench.bad("quote 0 0 '123456789';", 2, 20, 0);
+        Bench.bad("quote 0 0 'ab", 1, 13, 0);
+        Bench.bad("quote 0 0  'aba';", 2, 11, 0);
+        Bench.bad("quote 0 0 'abb';", 2, 10, 0);
+        Bench.bad("quote 0 0 'aaa';", 2, 10, 0);
     }
 
     private static void brackets() {
-        good("class [];", 0);
-        good("class ['[a-z()~#|&;,];", 0);
-        good("class [\\]\\-\\\\\\ \\'];", 0);
-        good("class [a-a];", 0);
-        good("class [\\ -~];", 0);
-        bad("class [", 1, 7, 0);
-        bad("class [a", 1, 8, 0);
-        bad("class [ a];", 1, 7, 0);
-        bad("class [a ];", 1, 8, 0);
-        bad("class [-a];", 1, 7, 0);
-        bad("class [a-];", 1, 9, 0);
-        bad("class [a-b-c];", 1, 10, 0);
-        bad("class [a--b];", 1, 9, 0);
-        bad("class [a-", 1, 9, 0);
-        bad("class [a\\", 1, 9, 0);
-        bad("class [\u00e9];", 1, 7, 0);
-        bad("class [b-a];", 2, 9, 0);
-        bad("class [b-\\a];", 2, 9, 0);
-        bad("class [b-a", 2, 9, 0);
-        bad("class [ab]];", 1, 10, 0);
+        Bench.good("class [];", 0);
+        Bench.good("class ['[a-z()~#|&;,];", 0);
+        Bench.good("class [\\]\\-\\\\\\ \\'];", 0);
+        Bench.good("class [a-a];", 0);
+        Bench.good("class [\\ -~];", 0);
+        Bench.bad("class [", 1, 7, 0);
+        Bench.bad("class [a", 1, 8, 0);
+        Bench.bad("class [ a];", 1, 7, 0);
+        Bench.bad("class [a ];", 1, 8, 0);
+        Bench.bad("class [-a];", 1, 7, 0);
+        Bench.bad("class [a-];", 1, 9, 0);
+        Bench.bad("class [a-b-c];", 1, 10, 0);
+        Bench.bad("class [a--b];", 1, 9, 0);
+        Bench.bad("class [a-", 1, 9, 0);
+        Bench.bad("class [a\\", 1, 9, 0);
+        Bench.bad("class [\u00e9];", 1, 7, 0);
+        Bench.bad("class [b-a];", 2, 9, 0);
+        Bench.bad("class [b-\\a];", 2, 9, 0);
+        Bench.bad("class [b-a", 2, 9, 0);
+        Bench.bad("class [ab]];", 1, 10, 0);
     }
 
     private static void classExpressions() {
-        good("class [a]|[b]&~[c]-([d]);", 0);
-        good("class ~ ~ ( ( [a] ) | ~[b] ) ;", 0);
-        bad("class ();", 1, 7, 0);
-        bad("class ([a];", 1, 10, 0);
-        bad("class ([a]", 1, 10, 0);
-        bad("class [a]|;", 1, 10, 0);
-        bad("class [a][b];", 1, 9, 0);
-        bad("class [a]~[b];", 1, 9, 0);
-        bad("class ~;", 1, 7, 0);
-        bad("class [a]);", 1, 9, 0);
-        bad("class a;", 1, 6, 0);
-        bad("class 'a';", 1, 6, 0);
+        Bench.good("class [a]|[b]&~[c]-([d]);", 0);
+        Bench.good("class ~ ~ ( ( [a] ) | ~[b] ) ;", 0);
+        Bench.bad("class ();", 1, 7, 0);
+        Bench.bad("class ([a];", 1, 10, 0);
+        Bench.bad("class ([a]", 1, 10, 0);
+        Bench.bad("class [a]|;", 1, 10, 0);
+        Bench.bad("class [a][b];", 1, 9, 0);
+        Bench.bad("class [a]~[b];", 1, 9, 0);
+        Bench.bad("class ~;", 1, 7, 0);
+        Bench.bad("class [a]);", 1, 9, 0);
+        Bench.bad("class a;", 1, 6, 0);
+        Bench.bad("class 'a';", 1, 6, 0);
     }
 
     private static void counts() {
-        good(Bench.times("rule 0;", 20), 20);
-        bad(Bench.times("rule 0;", 20) + "token 0;", 3, 140, 20);
-        bad(Bench.times("token 0;", 20) + "rule 0;", 3, 160, 20);
-        bad(Bench.times("rule 0;", 20) + "tokens 0;", 1, 140, 20);
-        bad(Bench.times("class [];", 8) + "  class ?", 3, 74, 8);
-        bad(Bench.times("quote 0 0 'abc';", 4) + "quote 0 0 'abc';", 3, 64, 4);
-        bad("class [];" + Bench.times("not 0#0;", 9), 3, 73, 9);
-        bad(Bench.times("drop 0 1;", 9), 3, 72, 8);
-        good("class [];" + Bench.times("lay#0;", 59), 0);
-        bad("class [];" + Bench.times("lay#0;", 60), 3, 363, 60);
-        bad("class [];" + Bench.times("lay#0;", 59) + "lays", 1, 363, 60);
-        bad("class [];" + Bench.times("lay#0;", 59) + "?", 1, 363, 60);
-        good("class [];" + Bench.times("lay#0;", 59) + "  ", 0);
-        good("rule 0 @1 'a' @1 'b';", 1);
-        bad("rule 0 @1 @1 @1 @1 @1;", 3, 19, 0);
-        bad("rule 0 @1 @1 @1 @1 @9;", 3, 19, 0);
-        bad("rule 0 @1 @1 @1 @1  '", 3, 20, 0);
-        bad("rule 0 @1 @1 @1 @1  #0;", 3, 20, 0);
-        bad("rule 0 @1 @1 @1 @1 x;", 1, 19, 0);
+        Bench.good(Bench.times("rule 0;", 20), 20);
+        Bench.bad(Bench.times("rule 0;", 20) + "token 0;", 3, 140, 20);
+        Bench.bad(Bench.times("token 0;", 20) + "rule 0;", 3, 160, 20);
+        Bench.bad(Bench.times("rule 0;", 20) + "tokens 0;", 1, 140, 20);
+        Bench.bad(Bench.times("class [];", 8) + "  class ?", 3, 74, 8);
+        Bench.bad(Bench.times("quote 0 0 'abc';", 4) + "quote 0 0 'abc';", 3, 64, 4);
+        Bench.bad("class [];" + Bench.times("not 0#0;", 9), 3, 73, 9);
+        Bench.bad(Bench.times("drop 0 1;", 9), 3, 72, 8);
+        Bench.good("class [];" + Bench.times("lay#0;", 59), 0);
+        Bench.bad("class [];" + Bench.times("lay#0;", 60), 3, 363, 60);
+        Bench.bad("class [];" + Bench.times("lay#0;", 59) + "lays", 1, 363, 60);
+        Bench.bad("class [];" + Bench.times("lay#0;", 59) + "?", 1, 363, 60);
+        Bench.good("class [];" + Bench.times("lay#0;", 59) + "  ", 0);
+        Bench.good("rule 0 @1 'a' @1 'b';", 1);
+        Bench.bad("rule 0 @1 @1 @1 @1 @1;", 3, 19, 0);
+        Bench.bad("rule 0 @1 @1 @1 @1 @9;", 3, 19, 0);
+        Bench.bad("rule 0 @1 @1 @1 @1  '", 3, 20, 0);
+        Bench.bad("rule 0 @1 @1 @1 @1  #0;", 3, 20, 0);
+        Bench.bad("rule 0 @1 @1 @1 @1 x;", 1, 19, 0);
     }
 
     private static void opened() {
-        good("class ~~~~~~[a];", 0);
-        good("class ((((([a]|~[b])))));", 0);
-        good("class ~[a]|~[a]|~[a]|~[a]|~[a]|~[a]|~[a];", 0);
-        good("class ([a])|([a])|([a])|([a])|([a])|([a])|([a]);", 0);
-        good("class [a]-([a]-([a]-([a]-([a]-([a]-([a]-[b]))))));", 0);
-        bad("class ~~~~~~~[a];", 3, 12, 0);
-        bad("class (((((((", 3, 12, 0);
-        bad("class (~(~(~(", 3, 12, 0);
-        bad("class ~([a]|~([a]|~([a]|~[a])));", 3, 24, 0);
-        bad("class ~~~~~~?;", 1, 12, 0);
+        Bench.good("class ~~~~~~[a];", 0);
+        Bench.good("class ((((([a]|~[b])))));", 0);
+        Bench.good("class ~[a]|~[a]|~[a]|~[a]|~[a]|~[a]|~[a];", 0);
+        Bench.good("class ([a])|([a])|([a])|([a])|([a])|([a])|([a]);", 0);
+        Bench.good("class [a]-([a]-([a]-([a]-([a]-([a]-([a]-[b]))))));", 0);
+        Bench.bad("class ~~~~~~~[a];", 3, 12, 0);
+        Bench.bad("class (((((((", 3, 12, 0);
+        Bench.bad("class (~(~(~(", 3, 12, 0);
+        Bench.bad("class ~([a]|~([a]|~([a]|~[a])));", 3, 24, 0);
+        Bench.bad("class ~~~~~~?;", 1, 12, 0);
     }
 
     private static void drops() {
-        good("drop 0 1;drop 1 2;drop 0 2;", 0);
-        good("drop 0 1;rule 0 @1;", 1);
-        bad("drop 0 1;rule 1 @0;", 4, 0, 0);
-        bad("class [a]; drop 2 3;drop 3 2;", 4, 11, 1);
-        bad("drop 4 5;drop 0 1;rule 1 @2;rule 2 @3;rule 3 @0;", 4, 9, 1);
-        bad("quote 1 0 'abc';drop 0 1;", 4, 16, 1);
-        bad("drop 0 1;drop 1 2;drop 2 0;", 4, 0, 0);
+        Bench.good("drop 0 1;drop 1 2;drop 0 2;", 0);
+        Bench.good("drop 0 1;rule 0 @1;", 1);
+        Bench.bad("drop 0 1;rule 1 @0;", 4, 0, 0);
+        Bench.bad("class [a]; drop 2 3;drop 3 2;", 4, 11, 1);
+        Bench.bad("drop 4 5;drop 0 1;rule 1 @2;rule 2 @3;rule 3 @0;", 4, 9, 1);
+        Bench.bad("quote 1 0 'abc';drop 0 1;", 4, 16, 1);
+        Bench.bad("drop 0 1;drop 1 2;drop 2 0;", 4, 0, 0);
         // Kind 4 comes behind all others, wherever these are.
-        bad("drop 2 3;drop 3 2;rule 9;", 2, 23, 2);
-        bad("drop 2 3;drop 3 2", 1, 17, 1);
+        Bench.bad("drop 2 3;drop 3 2;rule 9;", 2, 23, 2);
+        Bench.bad("drop 2 3;drop 3 2", 1, 17, 1);
     }
 
     private static void firstFault() {
