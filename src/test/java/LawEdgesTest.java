@@ -84,8 +84,9 @@ public final class LawEdgesTest {
         bench.textIs("a");
         Bench.due("count(2)", bench.parses.count(2), 1);
         Bench.edge(4, "nothing stays of the LAWS ahead, however long they were");
-        for (String law : new String[] {"1+2+3+4+5", "(deep+2)*3", "least[1,2]-most[3,4]", "7"}) {
-            bench.law("9*9*9*9*9*9*9*9+deep");
+        for (String law : new String[] {"1+2", "1+2+3+4+5", "(deep+2)*3", "least[1,2]-most[3,4]", "7"}) {
+            bench.law("9*(9+9*(9+9*(9+9)))");
+            bench.law("9*(9+9*(9+9*(9+9)))");
             bench.law(law);
             Bench law2 = Bench.with("token 0 'a';").type("a");
             law2.law(law);
