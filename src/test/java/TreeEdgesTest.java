@@ -155,6 +155,7 @@ public final class TreeEdgesTest {
         nodes(bench, 0, 0, 0, 200);
         nodes(bench, 3, 0, 0, 200);
         nodes(bench, 4, 0, 0, 85);
+        deepNodes();
         Bench.edge(23, "those behind are left out: the 200th is told, the 201st is not");
         int[] last = {198, 199, 199};
         String[] fifths = {" @1", " @1 @0", " @1 @0 @0"};
@@ -166,6 +167,23 @@ public final class TreeEdgesTest {
                 Bench.due("node(4, " + (last[k] + 1) + ", " + what + ")", many.parses.node(4, last[k] + 1, what), -1);
             }
         }
+    }
+
+    /** Down to the left 162 nodes, each with two or three empty ones to its right, that are told from below on. */
+    private static void deepNodes() {
+        Bench.edge(23, "a node ahead of those behind it: 162 down to the left, then 38 of those to the right, from below on");
+        Bench bench = Bench.with("token 0 'b';token 0 @1 @7 @7 @7;token 1 @2 @7 @7 @7;token 2 @3 @7 @7 @7;token 3 @4 @7 @7 @7;"
+            + "token 4 @5 @7 @7 @7;token 5 @6 @7 @7 @7;token 6 @0 'a' @7 @7;token 7;");
+        bench.type("b" + Bench.times("a", 23));
+        nodes(bench, 0, 0, 24, 200);
+        for (int k = 0; k < 162; k += k < 100 ? 9 : 3) node(bench, 0, k, k % 7, 0, 24 - k / 7, 162 - k, 1, k);
+        node(bench, 0, 161, 0, 0, 1, 1, 1, 161);
+        int[] deep = {161, 161, 160, 160, 160, 159};
+        for (int k = 0; k < deep.length; k++) node(bench, 0, 162 + k, 7, 2, 2, 1, 1, deep[k]);
+        node(bench, 0, 181, 7, 2, 2, 1, 1, 155);
+        node(bench, 0, 182, 7, 3, 3, 1, 1, 154);
+        node(bench, 0, 199, 7, 3, 3, 1, 1, 148);
+        node(bench, 0, 200);
     }
 
     private static void node(Bench bench, int sort, int k, int... due) {

@@ -281,6 +281,12 @@ public final class WorkEdgesTest {
         bench.step("again 40[type 0 'd';];", 19, 21, "dddddddddddddddddddcbcba");
         Bench.edge(5, "again: of no STEPS");
         bench.step("again 40[];again 40[again 40[];];", 0, 0, "dddddddddddddddddddcbcba");
+        String three = "again 40[];again 40[];again 40[];";
+        Bench.edge(5, "again: of no STEPS is begun once each time, however often it is done");
+        new Bench().step("again 40[" + three + "];again 33[" + three + "];type 0 'a';", 0, 0, "");
+        new Bench().step("again 40[" + three + "];again 25[" + three + "];type 0 'a';", 1, 0, "a");
+        new Bench().step("again 39[again 40[];" + three + "again 40[];];" + three + "type 0 'a';", 1, 0, "a");
+        new Bench().step("again 39[again 40[];" + three + "again 40[];];" + three + "again 0[];type 0 'a';", 0, 0, "");
         Bench.edge(5, "again within again: 0 times in either");
         bench.step("again 3[again 0[cut 0 1;];];again 0[again 3[cut 0 1;];];cut 0 19;", 1, 0, "cbcba");
         bench.step("again 2[again 2[cut 0 1;];again 0[cut 0 5;];];", 4, 0, "a");
