@@ -7,7 +7,6 @@ import java.util.ArrayList;
 import java.util.List;
 import java.util.regex.Matcher;
 import java.util.regex.Pattern;
-import javax.tools.ToolProvider;
 
 /** README.md: its lines of Java are compiled and run, each call held against the answer that is told behind it. */
 public final class ReadmeTest {
@@ -19,8 +18,8 @@ public final class ReadmeTest {
         Path made = Files.createTempDirectory("readme");
         Path source = made.resolve("ReadmeExample.java");
         Files.writeString(source, example(blocks));
-        int compiled = ToolProvider.getSystemJavaCompiler().run(null, null, null, "-proc:none",
-            "-cp", System.getProperty("java.class.path"), "-d", made.toString(), source.toString());
+        int compiled = new ProcessBuilder("javac", "-cp", System.getProperty("java.class.path"), "-d", made.toString(), source.toString())
+            .inheritIO().start().waitFor();
         Bench.due("javac of what README.md tells", compiled, 0);
         if (compiled == 0) run(made);
         remove(made);
